@@ -89,6 +89,9 @@ public final class RunTest {
         CHECK.waiting("7: no macrostep, and no done event of 0", x, 1, 0, 0);
         CHECK.records("7", x, 1001);
         CHECK.due("7: BAD when finished", x.begin(), MicrostepChart.BAD);
+        x.reset();
+        x.begin();
+        CHECK.waiting("7: what waited before is gone", x, 1, 0, 0);
     }
 
     private static void beginMayFail() {
