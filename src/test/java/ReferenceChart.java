@@ -151,7 +151,8 @@ final class ReferenceChart {
     }
 
     boolean action(int owner, int op, int a, int b) {
-        boolean owned = owner >= 0 && owner < arcs.size() || owner > 100 && owner < 200 && madeState(owner - 100) != null
+        boolean owned = owner >= 0 && owner < arcs.size()
+                || owner > 100 && owner < 200 && madeState(owner - 100) != null
                 || owner > 200 && owner < 300 && madeState(owner - 200) != null;
         boolean set = (op == 0 || op == 1) && a >= 0 && a <= 3;
         boolean raise = op == 2 && a >= 1 && a <= 20 && b == 0;
