@@ -10,6 +10,8 @@ public final class EdgesOfTermsTest {
         fourteenInConflict();
         outerTakenAfterInnerIsNotKept();
         noTargetIsInNoConflict();
+        droppedBeforeOneThatIsKept();
+        twoRegionsAtOnce();
         domainSkipsParallelStates();
         domainBetweenRegionsIsAbove();
         domainOfAStateThatGotChildrenLater();
@@ -160,6 +162,32 @@ public final class EdgesOfTermsTest {
         x.begin();
         send(x, 1);
         CHECK.records("all three", x, 2004, 2003, 2002, 2001, 3000, 3001, 3002, 1001, 1002, 1003, 1004);
+    }
+
+    private static void droppedBeforeOneThatIsKept() {
+        MicrostepChart x = regions(3);
+        x.state(4, 1);
+        x.state(4, 1);
+        x.transition(1, 1, 1);
+        x.transition(3, 1, -1);
+        x.transition(5, 1, 6);
+        x.begin();
+        CHECK.due("one microstep", send(x, 1), 1);
+        CHECK.records("the first one is dropped, the two behind it stay", x, 2005, 3001, 3002, 1006);
+    }
+
+    private static void twoRegionsAtOnce() {
+        MicrostepChart x = regions(2);
+        for (int s = 2; s <= 3; s++) {
+            x.state(s, 1);
+            x.state(s, 1);
+        }
+        x.transition(6, 1, 7);
+        x.transition(4, 1, 5);
+        x.begin();
+        CHECK.due("one microstep", send(x, 1), 1);
+        CHECK.records("both targets are entered", x, 2006, 2004, 3001, 3000, 1005, 1007);
+        CHECK.due("active", x.active(), 2 + 4 + 8 + 32 + 128);
     }
 
     private static void domainSkipsParallelStates() {
@@ -399,6 +427,13 @@ public final class EdgesOfTermsTest {
         x.transition(1, 102, -1);
         CHECK.due("an atomic region", x.begin(), 1);
         CHECK.records("102 alone", x, 1001, 1002, 1003, 1004, 3001);
+        MicrostepChart z = regions(1);
+        z.state(2, 3);
+        z.state(1, 1);
+        z.transition(1, 101, -1);
+        z.transition(1, 102, -1);
+        CHECK.due("an atomic region that was made last", z.begin(), 1);
+        CHECK.records("102 alone", z, 1001, 1002, 1003, 1004, 3001);
         MicrostepChart y = new MicrostepChart();
         y.state(0, 2);
         y.state(1, 1);
