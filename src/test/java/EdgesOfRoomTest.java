@@ -17,11 +17,13 @@ public final class EdgesOfRoomTest {
         }
         roomWhileBeginning();
         roomForDoneEvents();
+        notDoneWhenItsEntryFailed();
         internalLineIsUsedAgain();
         externalLineIsUsedAgain();
         sentEventsAreUsedAgain();
         fullLinesDoNotTouchEachOther();
         roomOfTick();
+        tickNeedsNoRoomWhenNoneIsDue();
         for (int records = 183; records <= 200; records++) {
             recordsOfAStep(records);
             recordsOfBegin(records);
@@ -201,6 +203,31 @@ public final class EdgesOfRoomTest {
         }
     }
 
+    /** The entry of a final state lacks room outside the internal line: its done events are not raised any more. */
+    private static void notDoneWhenItsEntryFailed() {
+        for (int b = 0; b <= 1; b++) {
+            int room = b == 0 ? 16 : 12;
+            MicrostepChart x = new MicrostepChart();
+            x.state(0, 2);
+            x.state(1, 1);
+            x.state(2, 3);
+            for (int i = 0; i <= room; i++) {
+                x.action(103, SEND, 2, b);
+            }
+            x.begin();
+            CHECK.due("the entry failed", x.outcome(), 4);
+            CHECK.due("it was active already", x.active(), 2 + 4 + 8);
+            CHECK.waiting("nothing is raised", x, 0, b == 0 ? room : 0, b == 0 ? 0 : room);
+        }
+        MicrostepChart y = new MicrostepChart();
+        y.state(0, 3);
+        for (int i = 0; i <= 12; i++) {
+            y.action(101, SEND, 2, 1);
+        }
+        y.begin();
+        CHECK.due("a run that failed is not finished", y.outcome(), 4);
+    }
+
     /** More than 16 events go through the internal line in one call, never more than 16 at once, in their order. */
     private static void internalLineIsUsedAgain() {
         MicrostepChart x = new MicrostepChart();
@@ -298,6 +325,38 @@ public final class EdgesOfRoomTest {
         CHECK.due("one taken, one sent with 0", x.step(), 1);
         CHECK.due("going on", x.outcome(), 1);
         CHECK.waiting("full as before", x, 0, 16, 12);
+        x.reset();
+        x.begin();
+        x.post(1);
+        for (int i = 1; i < 16; i++) {
+            x.post(6);
+        }
+        CHECK.due("12 are sent beside 15 external ones", x.step(), 1);
+        CHECK.waiting("all have room", x, 0, 15, 12);
+        CHECK.due("going on", x.outcome(), 1);
+    }
+
+    private static void tickNeedsNoRoomWhenNoneIsDue() {
+        MicrostepChart x = new MicrostepChart();
+        x.state(0, 1);
+        x.action(101, SEND, 2, 3);
+        x.begin();
+        for (int i = 0; i < 16; i++) {
+            x.post(8);
+        }
+        CHECK.due("10: none is due", x.tick(2), 2);
+        CHECK.due("10: the run goes on", x.outcome(), 1);
+        CHECK.waiting("10: nothing has come", x, 0, 16, 1);
+        CHECK.due("10: one is due", x.tick(1), 3);
+        CHECK.due("10: it has no room", x.outcome(), 4);
+        MicrostepChart y = new MicrostepChart();
+        y.state(0, 1);
+        y.begin();
+        for (int i = 0; i < 16; i++) {
+            y.post(8);
+        }
+        CHECK.due("10: none was sent", y.tick(50), 50);
+        CHECK.due("10: the run goes on", y.outcome(), 1);
     }
 
     private static MicrostepChart sentAndPosted(int posted) {

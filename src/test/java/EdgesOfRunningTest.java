@@ -30,6 +30,8 @@ public final class EdgesOfRunningTest {
         tickAtTheGreatestClock();
         resetAtEachTime();
         resetTwice();
+        resetKeepsTheWholeChart();
+        resetKeepsGuardsAndInitials();
         fiveHundredAndTwelveCalls();
         CHECK.end("EdgesOfRunningTest");
     }
@@ -442,6 +444,63 @@ public final class EdgesOfRunningTest {
         x.reset();
         x.reset();
         dueBuilding("11: twice", x);
+    }
+
+    private static void seeStep(StringBuilder seen, MicrostepChart x) {
+        seen.append(' ').append(x.step()).append(' ').append(x.active());
+        int listed = 0;
+        for (int place = 0; listed != -1; place++) {
+            listed = x.listed(place);
+            seen.append(' ').append(listed);
+        }
+    }
+
+    /** What is seen of a run of the sample, from its begin to its end; a step that finds no event is seen as well. */
+    private static String wholeRun(MicrostepChart x) {
+        StringBuilder seen = new StringBuilder();
+        seen.append(x.begin());
+        for (int event : new int[] {1, 1, 1, 2, 3, 4, 4, 5}) {
+            seen.append(' ').append(x.post(event)).append(' ').append(x.tick(1));
+            seeStep(seen, x);
+            seeStep(seen, x);
+        }
+        for (int i = 0; i <= 3; i++) {
+            seen.append(' ').append(x.variable(i)).append(' ').append(x.waiting(i));
+        }
+        return seen.append(' ').append(x.remembered(Sample.DEEP)).append(' ').append(x.outcome()).toString();
+    }
+
+    private static void resetKeepsTheWholeChart() {
+        String due = wholeRun(Sample.building());
+        MicrostepChart[] charts = {Sample.building(), Sample.goingOn(), Sample.finished(), Sample.outOfFuel(),
+            Sample.outOfRoom(), Sample.afterReset()};
+        for (MicrostepChart x : charts) {
+            x.reset();
+            String got = wholeRun(x);
+            CHECK.due("11: as if it were the first run: " + got + ", due is " + due, got.equals(due), true);
+        }
+        CHECK.due("11: all of it was run", due.endsWith(" 2"), true);
+        for (int t : new int[] {0, 1, 2, 3, 6, 7, 8}) {
+            CHECK.due("11: transition " + t + " was taken", due.contains(" " + (3000 + t) + " "), true);
+        }
+    }
+
+    private static void resetKeepsGuardsAndInitials() {
+        MicrostepChart x = new MicrostepChart();
+        x.state(0, 1);
+        x.state(0, 1);
+        x.initial(2);
+        x.transition(2, 1, -1);
+        x.guard(0, 0, 1, 7);
+        for (int round = 0; round < 3; round++) {
+            x.begin();
+            CHECK.due("11: the initial child that was named", x.active(), 4);
+            CHECK.due("11: the guard does not hold", send(x, 1), 0);
+            x.reset();
+        }
+        x.action(102, 0, 0, 7);
+        x.begin();
+        CHECK.due("11: now it holds", send(x, 1), 1);
     }
 
     /** The last call of the 512 is as good as the first: 4 to build and begin, 126 rounds of 4, and 4 more. */

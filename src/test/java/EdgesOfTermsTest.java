@@ -15,16 +15,21 @@ public final class EdgesOfTermsTest {
         domainSkipsParallelStates();
         domainBetweenRegionsIsAbove();
         domainOfAStateThatGotChildrenLater();
+        domainOfAHistory();
         neverRememberedInAPlainState();
         neverRememberedInAParallelState();
         rememberedWhenTheParentIsLeftAlone();
         rememberedAnew();
+        rememberedForEachExitSet();
+        rememberedGreatestState();
         rememberedFinalState();
         rememberedOnlyByTheHistoriesOfThoseLeft();
         doneOfAChildOfZero();
         doneOfNoParallelState();
+        doneIsSeenByAnAtomicState();
         doneOnlyWhenEachRegionIs();
         neverDoneWithARegionWithoutFinal();
+        neverDoneByAFinalStateFurtherBelow();
         doneAgain();
         noEventFirstAndLineToItsEnd();
         raisedBehindThoseThatWait();
@@ -247,6 +252,28 @@ public final class EdgesOfTermsTest {
         CHECK.records("a state is not below itself", x, 2003, 2002, 2001, 3001, 1001, 1002, 1003);
     }
 
+    /** A history is below its parent and all that its parent is below: the nearest of these is the domain. */
+    private static void domainOfAHistory() {
+        for (int kind = 4; kind <= 5; kind++) {
+            MicrostepChart x = chain(2);
+            x.state(2, 1);
+            x.state(2, 1);
+            x.state(4, 1);
+            x.state(5, kind);
+            x.state(5, 1);
+            x.transition(3, 1, 6);
+            x.transition(7, 2, 6);
+            x.transition(5, 3, 6);
+            x.begin();
+            send(x, 1);
+            CHECK.records("1 and 2 stay", x, 2003, 3000, 1004, 1005, 1007);
+            send(x, 2);
+            CHECK.records("its parent stays too", x, 2007, 3001, 1007);
+            send(x, 3);
+            CHECK.records("its parent is the source, and no state is below itself", x, 2007, 2005, 3002, 1005, 1007);
+        }
+    }
+
     private static void neverRememberedInAPlainState() {
         for (int kind = 4; kind <= 5; kind++) {
             MicrostepChart x = new MicrostepChart();
@@ -315,26 +342,68 @@ public final class EdgesOfTermsTest {
     }
 
     private static void rememberedAnew() {
-        MicrostepChart x = new MicrostepChart();
-        x.state(0, 1);
-        x.state(1, 4);
-        x.state(1, 1);
-        x.state(1, 1);
-        x.state(0, 1);
-        x.transition(1, 1, 5);
-        x.transition(5, 2, 3);
-        x.transition(5, 3, 4);
-        x.transition(5, 4, 2);
-        x.begin();
-        int[] events = {3, 2, 2, 3, 4, 4};
-        int[] remembered = {8, 16, 8, 8, 16, 16};
-        for (int i = 0; i < events.length; i++) {
-            send(x, 1);
-            CHECK.due("what was active last, " + i, x.remembered(2), remembered[i]);
-            send(x, events[i]);
-            CHECK.due("it is kept when its parent is entered, " + i, x.remembered(2), remembered[i]);
+        for (int kind = 4; kind <= 5; kind++) {
+            MicrostepChart x = new MicrostepChart();
+            x.state(0, 1);
+            x.state(1, kind);
+            x.state(1, 1);
+            x.state(1, 1);
+            x.state(0, 1);
+            x.transition(1, 1, 5);
+            x.transition(5, 2, 3);
+            x.transition(5, 3, 4);
+            x.transition(5, 4, 2);
+            x.begin();
+            int[] events = {3, 2, 2, 3, 4, 4};
+            int[] remembered = {8, 16, 8, 8, 16, 16};
+            for (int i = 0; i < events.length; i++) {
+                send(x, 1);
+                CHECK.due("what was active last, " + i, x.remembered(2), remembered[i]);
+                send(x, events[i]);
+                CHECK.due("it is kept when its parent is entered, " + i, x.remembered(2), remembered[i]);
+            }
+            CHECK.due("what it remembers is entered", x.active(), 2 + 16);
         }
-        CHECK.due("what it remembers is entered", x.active(), 2 + 16);
+    }
+
+    /** Two transitions are kept, and a history has its parent in the exit set of each. */
+    private static void rememberedForEachExitSet() {
+        for (int kind = 4; kind <= 5; kind++) {
+            MicrostepChart x = regions(2);
+            for (int s = 2; s <= 3; s++) {
+                int inner = x.state(s, 1);
+                x.state(inner, 1);
+                x.state(inner, kind);
+                x.state(s, 1);
+                x.transition(inner, 1, inner + 3);
+            }
+            x.begin();
+            send(x, 1);
+            CHECK.records("both are left", x, 2009, 2008, 2005, 2004, 3000, 3001, 1007, 1011);
+            CHECK.due("in the first exit set", x.remembered(6), 1 << 5);
+            CHECK.due("in the second exit set", x.remembered(10), 1 << 9);
+        }
+    }
+
+    private static void rememberedGreatestState() {
+        for (int kind = 4; kind <= 5; kind++) {
+            MicrostepChart x = new MicrostepChart();
+            x.state(0, 1);
+            x.state(0, 1);
+            x.state(1, kind);
+            for (int s = 4; s <= 15; s++) {
+                x.state(1, 1);
+            }
+            x.transition(4, 1, 15);
+            x.transition(1, 2, 2);
+            x.transition(2, 3, 3);
+            x.begin();
+            send(x, 1);
+            send(x, 2);
+            CHECK.due("state 15", x.remembered(3), 1 << 15);
+            send(x, 3);
+            CHECK.records("it is entered again", x, 2002, 3002, 1001, 1015);
+        }
     }
 
     private static void rememberedFinalState() {
@@ -400,6 +469,19 @@ public final class EdgesOfTermsTest {
         CHECK.records("102 alone", x, 1001, 1002, 1003, 3001);
     }
 
+    /** What waits for a done event is looked for from the active atomic states on, as for any event. */
+    private static void doneIsSeenByAnAtomicState() {
+        MicrostepChart x = regions(2);
+        x.state(2, 3);
+        x.state(3, 1);
+        x.state(3, 1);
+        x.transition(1, 102, -1);
+        x.transition(5, 102, 6);
+        CHECK.due("one", x.begin(), 1);
+        CHECK.records("the state that is done has no part in it", x, 1001, 1002, 1003, 1004, 1005, 2005, 3000, 3001,
+                1006);
+    }
+
     private static void doneOnlyWhenEachRegionIs() {
         MicrostepChart x = regions(3);
         for (int s = 2; s <= 4; s++) {
@@ -447,6 +529,20 @@ public final class EdgesOfTermsTest {
         y.transition(1, 105, -1);
         CHECK.due("a parallel region has no final child", y.begin(), 3);
         CHECK.records("all but 101", y, 1001, 1002, 1003, 1004, 1005, 1006, 3001, 3003, 3002);
+    }
+
+    private static void neverDoneByAFinalStateFurtherBelow() {
+        MicrostepChart x = regions(2);
+        x.state(2, 1);
+        x.state(4, 3);
+        x.state(3, 3);
+        x.transition(1, 101, -1);
+        x.transition(1, 102, -1);
+        x.transition(1, 103, -1);
+        x.transition(1, 104, -1);
+        CHECK.due("two", x.begin(), 2);
+        CHECK.records("104 and 103: the active child of 2 is not final", x, 1001, 1002, 1003, 1004, 1005, 1006, 3003,
+                3002);
     }
 
     /** Each time that a final state is entered it is done anew, by whichever final child of the region. */
