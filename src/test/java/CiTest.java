@@ -30,7 +30,7 @@ public final class CiTest {
         projects.add(() -> new Project(1, "the class is beyond Java 17", "void f(Object o) { switch (o) {"
                 + " case String s -> { } default -> { } } }", PASSES, PASSES));
         CHECK.due(".ci/run may be executed", Files.isExecutable(Path.of(".ci/run")), true);
-        ExecutorService threads = Executors.newFixedThreadPool(projects.size());
+        ExecutorService threads = Executors.newFixedThreadPool(4);
         for (Future<Project> done : threads.invokeAll(projects)) {
             done.get().due();
         }

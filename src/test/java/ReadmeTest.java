@@ -21,6 +21,7 @@ public final class ReadmeTest {
         examples(blocks(text, "java"));
         commands(blocks(text, "sh"), text);
         namedTests(text);
+        namedMethods(text);
         CHECK.end("ReadmeTest");
     }
 
@@ -101,5 +102,17 @@ public final class ReadmeTest {
             }
         }
         CHECK.due("README names " + named + ", there are " + there, named.equals(there), true);
+    }
+    private static void namedMethods(String text) throws IOException {
+        Matcher name = Pattern.compile("`(\\w+Test)\\.(\\w+)`").matcher(text);
+        int count = 0;
+        while (name.find()) {
+            count++;
+            String source = Files.readString(TESTS.resolve(name.group(1) + ".java"));
+            String method = name.group(2) + "(";
+            CHECK.due("there is " + name.group(), source.contains(" void " + method), true);
+            CHECK.due("it is called: " + name.group(), source.indexOf(method) < source.lastIndexOf(method), true);
+        }
+        CHECK.due("README names such methods", count > 50, true);
     }
 }
