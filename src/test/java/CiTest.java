@@ -51,10 +51,11 @@ public final class CiTest {
             sharedThere = shared != NONE;
             Path directory = Files.createTempDirectory("ci");
             Path main = directory.resolve("main");
+            Path tests = main.resolve("src/test/java");
             write(main.resolve("src/main/java"), "MicrostepChart", member + " static int helped() { return 1; }");
-            write(main.resolve("src/test/java"), "Helper", "static int help() { return MicrostepChart.helped(); }");
-            write(main.resolve("src/test/java"), "OneTest", mainOf("OneTest", "if (Helper.help() == 1) { " + test + " }"));
-            write(main.resolve("src/test/java"), "OtherTest", mainOf("OtherTest", ""));
+            write(tests, "Helper", "static int help() { return MicrostepChart.helped(); }");
+            write(tests, "OneTest", mainOf("OneTest", "if (Helper.help() == 1) { " + test + " }"));
+            write(tests, "OtherTest", mainOf("OtherTest", ""));
             Files.createDirectories(directory.resolve("shared/tests"));
             if (sharedThere) {
                 write(directory.resolve("shared/tests"), "Runs", mainOf("Runs", shared));
@@ -73,7 +74,8 @@ public final class CiTest {
 
         private static void write(Path directory, String name, String members) throws Exception {
             Files.createDirectories(directory);
-            Files.writeString(directory.resolve(name + ".java"), "public final class " + name + " { " + members + " }\n");
+            String text = "public final class " + name + " { " + members + " }\n";
+            Files.writeString(directory.resolve(name + ".java"), text);
         }
 
         void due() {

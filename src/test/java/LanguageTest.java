@@ -129,7 +129,8 @@ public final class LanguageTest {
             }
             int fields = 0;
             for (Tree member : tree.getMembers()) {
-                if (member instanceof VariableTree field && !field.getModifiers().getFlags().contains(Modifier.STATIC)) {
+                boolean field = member instanceof VariableTree;
+                if (field && !((VariableTree) member).getModifiers().getFlags().contains(Modifier.STATIC)) {
                     fields++;
                 }
             }

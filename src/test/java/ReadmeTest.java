@@ -12,7 +12,8 @@ public final class ReadmeTest {
     private static final Check CHECK = new Check();
     private static final Path README = Path.of("README.md");
     private static final Path TESTS = Path.of("src/test/java");
-    private static final Pattern TOLD = Pattern.compile("(?:(int) (\\w+) = )?(\\w+\\.\\w+\\(.*\\));\\s*// answers (.*)");
+    private static final Pattern TOLD = Pattern.compile(
+            "(?:(int) (\\w+) = )?(\\w+\\.\\w+\\(.*\\));\\s*// answers (.*)");
     private static final Pattern SILENT = Pattern.compile(
             "MicrostepChart \\w+ = new MicrostepChart\\(\\);|\\w+\\.reset\\(\\);\\s*//.*");
 
@@ -45,7 +46,8 @@ public final class ReadmeTest {
             if (told.matches()) {
                 code.append(checkOf(told));
             } else {
-                CHECK.due("README tells the answer of: " + line, line.isBlank() || SILENT.matcher(line).matches(), true);
+                boolean silent = line.isBlank() || SILENT.matcher(line).matches();
+                CHECK.due("README tells the answer of: " + line, silent, true);
                 code.append(line).append('\n');
             }
         }
@@ -70,8 +72,8 @@ public final class ReadmeTest {
             Path directory = Files.createTempDirectory("readme");
             Path source = directory.resolve(name + ".java");
             Files.writeString(source, program(name, examples.get(i)));
-            Outcome compiled = Outcome.of(Path.of("."), "javac", "--release", "17", "-sourcepath", TESTS.toString(), "-d",
-                    directory.toString(), "src/main/java/MicrostepChart.java", source.toString());
+            Outcome compiled = Outcome.of(Path.of("."), "javac", "--release", "17", "-sourcepath", TESTS.toString(),
+                    "-d", directory.toString(), "src/main/java/MicrostepChart.java", source.toString());
             CHECK.due(name + " compiles: " + compiled.text, compiled.code, 0);
             Outcome run = Outcome.of(Path.of("."), "java", "-cp", directory.toString(), name);
             CHECK.due(name + " answers what is said: " + run.text, run.code, 0);
